@@ -779,7 +779,8 @@ public final class SoficShift {
         }
 
         int row(int source, int letter) {
-            return isVertex(source) && isLetter(letter) ? masks[LETTERS * source + letter] : 0;
+            boolean known = source >= 0 && source < VERTICES && letter >= 0 && letter < LETTERS;
+            return known ? masks[LETTERS * source + letter] : 0;
         }
 
         void link(int source, int letter, int targetSet) {
@@ -827,7 +828,7 @@ public final class SoficShift {
         private int exits(int vertex) {
             int ends = 0;
             for (int letter = 0; letter < LETTERS; letter++) {
-                ends |= row(vertex, letter);
+                ends |= vertex >= 0 && vertex < VERTICES ? masks[LETTERS * vertex + letter] : 0;
             }
             return ends;
         }
@@ -1006,7 +1007,8 @@ public final class SoficShift {
         }
 
         int after(int state, int letter) {
-            return state >= 0 && state < size && isLetter(letter) ? next[LETTERS * state + letter] : DEAD;
+            boolean known = state >= 0 && state < size && letter >= 0 && letter < LETTERS;
+            return known ? next[LETTERS * state + letter] : DEAD;
         }
 
         /** Writes the shortest word that leads to a state, and the lowest of these. */
@@ -1168,64 +1170,79 @@ public final class SoficShift {
     private static final class PairSearch {
         private static final int PAIRS = Subsets.WIDTH * Subsets.WIDTH;
         private static final int BOTH_DEAD = PAIRS - 1;
-        private static final int ROOT = -1;
-        private static final int UNSEEN = 0;
+        private static final int FIRST_ROOM = 512;
+        private static final int NO_ARRIVAL = -1;
 
-        private final int[] queue = new int[PAIRS];
-        // For each pair that was seen, 1 + 4 * the pair from which it was found + the letter.
-        private final int[] arrivals = new int[PAIRS];
+        // The pairs in the order in which they were found, each with PAIRS * its arrival added. An arrival is 4 * the place
+        // of the pair from which it was found + the letter. Few searches go far, so that the room grows as it is needed.
+        private long[] found = new long[FIRST_ROOM];
         private int size;
-        private int lastArrival = ROOT;
+        // A bit for each pair that was found.
+        private final int[] seen = new int[PAIRS / 32];
+        private int lastArrival = NO_ARRIVAL;
 
         boolean findDifference(Subsets first, Subsets second) {
             forget();
-            note(Subsets.WIDTH * first.start() + second.start(), ROOT);
-            if (size > 0 && isDifference(queue[0])) {
-                lastArrival = ROOT;
+            int root = Subsets.WIDTH * first.start() + second.start();
+            lastArrival = NO_ARRIVAL;
+            if (isDifference(root)) {
                 return true;
             }
-            for (int i = 0; i < size && i < PAIRS; i++) {
-                int from = queue[i];
+            note(root, 0);
+            for (int place = 0; place < size && place < PAIRS; place++) {
+                int from = pairAt(place);
                 for (int letter = 0; letter < LETTERS; letter++) {
                     int one = first.after(from / Subsets.WIDTH, letter);
                     int two = second.after(from % Subsets.WIDTH, letter);
-                    int arrival = 1 + LETTERS * from + letter;
-                    if (isDifference(Subsets.WIDTH * one + two)) {
+                    int pair = Subsets.WIDTH * one + two;
+                    int arrival = LETTERS * place + letter;
+                    if (isDifference(pair)) {
                         lastArrival = arrival;
                         return true;
                     }
-                    note(Subsets.WIDTH * one + two, arrival);
+                    note(pair, arrival);
                 }
             }
             return false;
-        }
-
-        private void forget() {
-            for (int i = 0; i < size && i < PAIRS; i++) {
-                arrivals[queue[i]] = UNSEEN;
-            }
-            size = 0;
-        }
-
-        private void note(int pair, int arrival) {
-            if (pair >= 0 && pair < BOTH_DEAD && arrivals[pair] == UNSEEN && size < PAIRS) {
-                arrivals[pair] = arrival;
-                queue[size] = pair;
-                size++;
-            }
         }
 
         private static boolean isDifference(int pair) {
             return (pair / Subsets.WIDTH == Subsets.DEAD) != (pair % Subsets.WIDTH == Subsets.DEAD);
         }
 
+        private int pairAt(int place) {
+            return place >= 0 && place < size ? (int) (found[place] % PAIRS) : BOTH_DEAD;
+        }
+
+        private int arrivalAt(int place) {
+            return place > 0 && place < size ? (int) (found[place] / PAIRS) : NO_ARRIVAL;
+        }
+
+        private void forget() {
+            for (int place = 0; place < size; place++) {
+                seen[pairAt(place) / 32] = 0;
+            }
+            size = 0;
+        }
+
+        private void note(int pair, int arrival) {
+            if (pair < 0 || pair >= BOTH_DEAD || (seen[pair / 32] >> pair % 32 & 1) != 0) {
+                return;
+            }
+            if (size == found.length) {
+                found = Arrays.copyOf(found, 2 * size);
+            }
+            seen[pair / 32] |= 1 << pair % 32;
+            found[size] = pair + (long) PAIRS * arrival;
+            size++;
+        }
+
         void spellDifference(Text text) {
             text.clear();
             int arrival = lastArrival;
-            for (int i = 0; i < PAIRS && arrival > 0; i++) {
-                text.addLetter((arrival - 1) % LETTERS);
-                int from = (arrival - 1) / LETTERS;
-                arrival = from < PAIRS ? arrivals[from] : ROOT;
+            for (int i = 0; i < PAIRS && arrival >= 0; i++) {
+                text.addLetter(arrival % LETTERS);
+                arrival = arrivalAt(arrival / LETTERS);
             }
             text.turnAround();
         }

@@ -27,7 +27,11 @@ public final class ModelTest {
                 break;
             }
         }
-        System.out.println("answers by model, calls: " + Run.tally);
+        int calls = 0;
+        for (int count : Run.tally.values()) {
+            calls += count;
+        }
+        System.out.println(calls + " calls with answers of " + Run.tally.size() + " kinds");
         for (String kind : List.of("feed -3", "compareElements 0", "compareElements 2", "compareElements 1", "setNaN -12", "setNaN -13",
 "cover -5", "cover >0", "memory -1", "memory >0", "forbid -3", "intersect -3", "union -3",
                 "writeDifference -1", "writeDifference >0", "writeDifference 0", "checkCounts -1", "isMixing 0", "isMixing >0",
