@@ -599,6 +599,9 @@ public final class PromiseTest {
         }
         due("too large", with(SUBSETS_OF_8).memory(0), TOO_LARGE);
         due("seven a and a b", with("0a1;1a2;2a3;3a4;4a5;5a6;6a7;7b0").memory(0), 7);
+        // Eight vertices have 28 pairs, each of which two paths can pass once: no finite memory is higher.
+        due("27", with("0a0;0c1;0d6;1a2;1b1;1c4;1d5;2a3;3a4;3b7;3c4;4a5;4c4;5a6;6a7;6d1;7b0;7c2;7d4").memory(0), 27);
+        due("28", with("0a1;0b2;0d0;1a2;1d4;2a3;2d7;3a4;3b3;3c1;3d1;4a5;5a6;5b0;5c4;6a7;6c0;7c7;7d6").memory(0), 28);
     }
 
     private static void isMixing() {
