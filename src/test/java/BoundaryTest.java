@@ -37,6 +37,10 @@ public final class BoundaryTest {
     private static final String COVER_OF_8 = "0a0;0b0;0b1;1a2;1b2;2a3;2b3;3c0";
     private static final String COVER_OF_9 = "0a0;0b0;0b1;1a2;1b2;2a3;2b3;3c4;4a0";
 
+    // a turns the ring, b swaps 0 and 1, and c is missing at 7: every set of vertices is the end of some word, and all words of
+    // a, b and c are allowed until 8 times c, with a between them, has found each vertex at 7.
+    private static final String ALL_SETS = RING_OF_8 + ";0b1;1b0;2b2;3b3;4b4;5b5;6b6;7b7;0c0;1c1;2c2;3c3;4c4;5c5;6c6";
+
     private static final String SLOT = "`slot`: the slot, 0 to 5";
     private static final String SLOT_OF_GRAPH = "`slot`: the slot of the graph, 0 to 5";
     private static final String SLOT_AS_TARGET = "`slot`: the target slot, 0 to 5";
@@ -940,9 +944,34 @@ public final class BoundaryTest {
             due("no edge, " + n, x.words(5, n), 0);
         }
 
+        x = with(ALL_SETS);
+        due("the first length at which a word is missing, but one", x.words(0, 14), 4782969);
+        due("the first length at which a word is missing", x.words(0, 15), 14348906);
+        due("the longest length, with every set of vertices", x.words(0, 30), wordsOfAllSets(30));
+
         says(12, BAD_ANY);
         refuses("both", BAD, y -> y.words(6, 31));
         refuses("both", BAD, y -> y.words(-1, -1));
+    }
+
+    /** Counts the words of ALL_SETS for each set of vertices at which they end. */
+    private static long wordsOfAllSets(int n) {
+        long[] counts = new long[256];
+        counts[255] = 1;
+        for (int i = 0; i < n; i++) {
+            long[] longer = new long[256];
+            for (int set = 1; set < 256; set++) {
+                longer[set << 1 & 255 | set >> 7] += counts[set];
+                longer[set & 252 | set << 1 & 2 | set >> 1 & 1] += counts[set];
+                longer[set & 127] += counts[set];
+            }
+            counts = longer;
+        }
+        long total = 0;
+        for (int set = 1; set < 256; set++) {
+            total += counts[set];
+        }
+        return total;
     }
 
     private static void growth() {
@@ -1114,6 +1143,21 @@ public final class BoundaryTest {
             dueText("word " + i, text(x), words[i]);
         }
 
+        SoficShift z = with("0a0;0b0");
+        feedTo(z, "bba").forbid(0, 0);
+        feedTo(z, "aab").forbid(0, 0);
+        due("two of three letters", z.forbidden(0, 3), 2);
+        z.writeForbidden(0, 3, 0);
+        dueText("the first of three letters", text(z), "aab");
+        z.writeForbidden(0, 3, 1);
+        dueText("the second of three letters", text(z), "bba");
+
+        z = with("0a0;0b0;0c0");
+        feedTo(z, "bb").forbid(0, 0);
+        feedTo(z, "abc").forbid(0, 0);
+        due("abb is lower, but not minimal", z.writeForbidden(0, 3, 0), 3);
+        dueText("abb is lower, but not minimal", text(z), "abc");
+
         range(17, SLOT, 0, 1, 5, NONE, (y, v) -> y.writeForbidden(v, 1, 0), BAD);
         range(17, "`n`: the length, 1 to 6", 1, 1, 6, NONE, (y, v) -> y.writeForbidden(0, v, 0), BAD);
 
@@ -1223,6 +1267,12 @@ public final class BoundaryTest {
         says(20, "Returns the coefficient");
         due("a ring: x to the 8 minus 1", with(RING_OF_8).characteristic(0, 0), -1);
         due("in between", with(RING_OF_8).characteristic(0, 7), 0);
+        x = with(RING_OF_8, GOLDEN);
+        for (int i = 0; i < 2; i++) {
+            due("one call after another", x.characteristic(0, 0), -1);
+            due("one call after another", x.characteristic(0, 1), 0);
+            due("one call after another", x.characteristic(1, 1), -1);
+        }
         due("large ones: (x - 4) to the 8", loops().characteristic(0, 0), 65536);
         due("large ones", loops().characteristic(0, 4), 70 * 256);
         due("large ones", loops().characteristic(0, 3), -56 * 1024);
@@ -1257,6 +1307,30 @@ public final class BoundaryTest {
         due("two vertices", x.cover(0, 1), 2);
         dueText("nothing of the old graph is left", graph(x, 1), EVEN);
         dueText("the graph stays", graph(x, 0), "0c7;3b7;7a7;7b3");
+
+        x = with(RING_OF_8, COVER_OF_8, GOLDEN, "0a1;0c2;1a0;1c2;2b0", ALL_SETS);
+        x.cover(1, 5);
+        due("one vertex", x.cover(0, 5), 1);
+        dueText("one vertex, after a larger cover", graph(x, 5), "0a0");
+        due("two vertices", x.cover(2, 5), 2);
+        dueText("two vertices", graph(x, 5), GOLDEN);
+        due("0 and 1 are one vertex", x.cover(3, 5), 2);
+        dueText("0 and 1 are one vertex", graph(x, 5), "0a0;0c1;1b0");
+        // Single vertices, found early by b, are all that lasts; the sets of two, found later, lead back to them by b too.
+        feedTo(x, "0a0;0b2;0c2;1a1;1c0;2c1").parse(3);
+        due("the sets that last are not found last", x.cover(3, 5), 3);
+        dueText("the sets that last are not found last", graph(x, 5), "0c1;1a1;1c2;2a2;2b0;2c0");
+        feedTo(x, "0b1;1a2;1b3;2a0;2b0;3a0;3b0").parse(3);
+        due("2 and 3 are one vertex", x.cover(3, 5), 3);
+        dueText("2 and 3 are one vertex", graph(x, 5), "0b1;1a2;1b2;2a0;2b0");
+        // The reset word is abba, which ends at 1; the vertices get their numbers in the order 1, 4, 2, 3, 0.
+        feedTo(x, "0b4;1a4;1b2;2a1;2b3;3b0;4a2;4b1").parse(3);
+        due("five vertices", x.cover(3, 5), 5);
+        dueText("five vertices", graph(x, 5), "0a1;0b2;1a2;1b0;2a0;2b3;3b4;4b1");
+        due("with every set of vertices", x.cover(4, 5), 8);
+        // The reset word ends at 6, which becomes 0; then 7 becomes 1, and so on round the ring.
+        dueText("with every set of vertices", graph(x, 5),
+                "0a1;0b0;0c0;1a2;1b1;2a3;2b3;2c2;3a4;3b2;3c3;4a5;4b4;4c4;5a6;5b5;5c5;6a7;6b6;6c6;7a0;7b7;7c7");
 
         range(21, SLOT_OF_GRAPH, 0, 2, 5, REDUCIBLE, (y, v) -> y.cover(v, 1), BAD);
         range(21, TARGET_SLOT, 0, 2, 5, 2, (y, v) -> y.cover(1, v), BAD);
@@ -1300,7 +1374,14 @@ public final class BoundaryTest {
         says(22, "Returns the length of the word");
         due("no letter", x.writeReset(1), 0);
         due("one letter", x.writeReset(2), 1);
-        due("two letters", with("0a1;0b0;0c0;1a2;1b0;1c1;2a0;2b2").writeReset(0), 2);
+        x = with("0a1;0b0;0c0;1a2;1b0;1c1;2a0;2b2", ALL_SETS);
+        due("two letters", x.writeReset(0), 2);
+        dueText("two letters, not the other way round", text(x), "bc");
+        feedTo(x, "0b4;1a4;1b2;2a1;2b3;3b0;4a2;4b1").parse(2);
+        due("four letters", x.writeReset(2), 4);
+        dueText("four letters", text(x), "abba");
+        due("a long word", x.writeReset(1), 13);
+        dueText("a long word", text(x), "cacacacacacac");
 
         says(22, BAD_SLOT_FIRST);
         refuses("slot 6", BAD, y -> y.writeReset(6));
@@ -1347,7 +1428,8 @@ public final class BoundaryTest {
 
         says(23, "NONE if there is no such number.");
         refuses("even", NONE, y -> y.memory(1));
-        due("a loop of both letters at two vertices", with("0a0;1a1;0b1;1c0").memory(0), NONE);
+        due("a loop of one letter at two vertices", with("0a0;1a1;0b1;1c0").memory(0), NONE);
+        due("b stays at six vertices", with(ALL_SETS).memory(0), NONE);
     }
 
     private static void isMixing() {
@@ -1399,6 +1481,16 @@ public final class BoundaryTest {
         due("1", x.writeDifference(0, 3), 1);
         due("2", x.writeDifference(0, 1), 2);
         due("3", x.writeDifference(1, 2), 3);
+        x = with("0a0;0b0;0c0", ALL_SETS, "0a1;0b0;1a2;1b0;2a2", "0a0;0b0");
+        due("15, with every set of vertices", x.writeDifference(0, 1), 15);
+        dueText("15", text(x), "cacacacacacacac");
+        due("15, the other way", x.writeDifference(1, 0), 15);
+        // Here b swaps 2 and 7, so that a word with b can find the last vertex at 7 too; some 29,000 pairs of sets come before.
+        feedTo(x, ALL_SETS.replace("0b1;1b0;2b2", "0b0;1b1;2b7").replace("7b7", "7b2")).parse(4);
+        due("15, with many pairs of sets", x.writeDifference(1, 4), 15);
+        dueText("15", text(x), "cacacbcacacacac");
+        due("3, not the other way round", x.writeDifference(2, 3), 3);
+        dueText("3", text(x), "aab");
 
         says(25, BAD_ANY_FIRST);
         refuses("both", BAD, y -> y.writeDifference(6, 6));
@@ -1408,6 +1500,12 @@ public final class BoundaryTest {
         refuses("the same slot", NONE, y -> y.writeDifference(1, 1));
         refuses("the same empty slot", NONE, y -> y.writeDifference(5, 5));
         refuses("another graph of the same words", NONE, () -> with("0a0;0b0", "0a1;0b1;1a0;1b0;7c0"), y -> y.writeDifference(0, 1));
+        Supplier<SoficShift> renumbered = () -> {
+            SoficShift y = with(ALL_SETS);
+            y.cover(0, 1);
+            return y;
+        };
+        refuses("the same words, with every set of vertices", NONE, renumbered, y -> y.writeDifference(0, 1));
         refuses("no allowed word in either", NONE, () -> with("0a1", "7d6;6d5"), y -> y.writeDifference(0, 1));
     }
 
@@ -1450,6 +1548,9 @@ public final class BoundaryTest {
         refuses("one and eight", FULL, () -> with(RING_OF_8, "7d7"), y -> y.union(1, 0, 1));
         refuses("eight and eight", FULL, () -> with(RING_OF_8), y -> y.union(0, 0, 0));
         due("four and four", with("0a1;1a2;2a3;3a0").union(0, 0, 0), 8);
+        SoficShift after = with(RING_OF_8, "7d7");
+        due("a large product", after.intersect(0, 0, 2), FULL);
+        due("one and one after it", after.union(1, 1, 2), 2);
         due("others outside the essential parts do not count", with("0a1;1a2;2a3;3a4;4a5;5a6;6a7;7a7").union(0, 0, 1), 2);
     }
 
@@ -1472,6 +1573,11 @@ public final class BoundaryTest {
         x = with("0a0;0b0;0d0", "1b1;1c1;1d1");
         due("the letters of both", x.intersect(0, 1, 2), 1);
         dueText("the letters of both", graph(x, 2), "0b0;0d0");
+        x = with("0a0;0a1;1a0;1a1", "3a3");
+        due("several edges with the same letter", x.intersect(0, 1, 2), 2);
+        dueText("several edges with the same letter", graph(x, 2), "0a0;0a1;1a0;1a1");
+        due("the other way", x.intersect(1, 0, 2), 2);
+        dueText("the other way", graph(x, 2), "0a0;0a1;1a0;1a1");
 
         says(27, "The essential part of the product graph is stored; its vertices get the numbers from 0 in ascending order of u, and of v "
                 + "for equal u.");
@@ -1482,6 +1588,15 @@ public final class BoundaryTest {
         x = with("0a0;0b1;1c1", "0a0;0b1");
         due("the way out is not essential", x.intersect(0, 1, 2), 1);
         dueText("only the loop", graph(x, 2), "0a0");
+        x = with("1a1;1a0", "2a0;0a1;1a1", RING_OF_8, "0a0");
+        due("(0, 0) has no way out", x.intersect(0, 0, 4), 1);
+        dueText("(0, 0) has no way out", graph(x, 4), "0a0");
+        due("(0, 0) has no way in but from (2, 2)", x.intersect(1, 1, 4), 1);
+        dueText("(0, 0) has no way in but from (2, 2)", graph(x, 4), "0a0");
+        due("after a large product", x.intersect(2, 2, 4), FULL);
+        due("nothing of it is left", x.intersect(3, 3, 4), 1);
+        due("after a large union", x.union(2, 2, 4), FULL);
+        due("nothing of it is left", x.intersect(3, 3, 4), 1);
 
         range(27, FIRST, 0, 2, 5, 0, (y, v) -> y.intersect(v, 0, 2), BAD);
         range(27, SECOND, 0, 2, 5, 0, (y, v) -> y.intersect(0, v, 2), BAD);
@@ -1694,6 +1809,9 @@ public final class BoundaryTest {
         refusesAndEmpties("nine", FULL, () -> feedTo(with("0a1;0b1;1a2;1b2;2a0;2b0"), "aab"), y -> y.forbid(0, 1));
         refusesAndEmpties("nine, to its own slot", FULL, () -> feedTo(with("0a1;0b1;1a2;1b2;2a0;2b0"), "aab"), y -> y.forbid(0, 0));
         due("eight", feedTo(with("0a1;0b1;1a2;1b2;2a3;2b3;3a0;3b0"), "ab").forbid(0, 1), 8);
+        x = with(RING_OF_8, "7d7");
+        due("a large product", x.intersect(0, 0, 2), FULL);
+        due("one vertex after it", feedTo(x, "a").forbid(1, 2), 1);
         due("others do not count", feedTo(with("0a1;1a2;2a3;3a4;4a5;5a6;6a7;7a7"), "bb").forbid(0, 1), 1);
     }
 

@@ -21,7 +21,7 @@ public final class ModelTest {
     private static int wrong = 0;
 
     public static void main(String[] args) {
-        for (int run = 0; run < 1500; run++) {
+        for (int run = 0; run < 3000; run++) {
             new Run(run).go();
             if (wrong > 20) {
                 break;
@@ -33,7 +33,7 @@ public final class ModelTest {
         }
         System.out.println(calls + " calls with answers of " + Run.tally.size() + " kinds");
         for (String kind : List.of("feed -3", "compareElements 0", "compareElements 2", "compareElements 1", "setNaN -12", "setNaN -13",
-"cover -5", "cover >0", "memory -1", "memory >0", "forbid -3", "intersect -3", "union -3",
+                "cover -5", "cover >0", "memory -1", "memory >0", "forbid -3", "intersect -3", "union -3",
                 "writeDifference -1", "writeDifference >0", "writeDifference 0", "checkCounts -1", "isMixing 0", "isMixing >0",
                 "writeReset >0", "undo -6", "restore -6", "compareElements 3")) {
             if (Run.tally.getOrDefault(kind, 0) < 20) {
@@ -66,7 +66,8 @@ public final class ModelTest {
         void go() {
             int slotVertices = 1 + random.nextInt(8);
             int slotLetters = 1 + random.nextInt(4);
-            while (calls < 480 && !bad) {
+            // The longest step makes some 150 calls, and an object is good for 512.
+            while (calls < 360 && !bad) {
                 if (random.nextInt(6) == 0) {
                     slotVertices = 1 + random.nextInt(8);
                     slotLetters = 1 + random.nextInt(4);
@@ -314,10 +315,8 @@ public final class ModelTest {
             for (int i : new int[] {-1, 0, 1, model.output.length() - 1, model.output.length()}) {
                 due("output(" + i + ")", real.output(i), model.output(i));
             }
-            for (int i = 0; i < model.output.length(); i++) {
-                if (real.output(i) != model.output(i)) {
-                    due("output(" + i + ")", real.output(i), model.output(i));
-                }
+            for (int i = 2; i < model.output.length() - 1 && calls < 500; i++) {
+                due("output(" + i + ")", real.output(i), model.output(i));
             }
         }
 
@@ -330,6 +329,7 @@ public final class ModelTest {
                 StringBuilder text = new StringBuilder();
                 for (int k = 0; k < n; k++) {
                     text.append((char) real.output(k));
+                    calls++;
                 }
                 due("output(" + n + ")", real.output(n), -1);
                 model.output = text.toString();
@@ -345,10 +345,14 @@ public final class ModelTest {
                 due("characteristic(" + s + "," + power + ")", real.characteristic(s, power), Long.MIN_VALUE);
                 return;
             }
+            BigInteger[] coefficients = new BigInteger[size + 1];
+            for (int k = 0; k <= size; k++) {
+                coefficients[k] = BigInteger.valueOf(real.characteristic(s, k));
+            }
             for (int x = -9; x <= 9; x += 2) {
                 BigInteger sum = BigInteger.ZERO;
                 for (int k = size; k >= 0; k--) {
-                    sum = sum.multiply(BigInteger.valueOf(x)).add(BigInteger.valueOf(real.characteristic(s, k)));
+                    sum = sum.multiply(BigInteger.valueOf(x)).add(coefficients[k]);
                 }
                 due("characteristic(" + s + ",all)", sum.longValueExact(), model.determinant(s, x));
             }
