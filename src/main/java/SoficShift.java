@@ -158,7 +158,7 @@ public final class SoficShift {
         if (!isSlot(slot) || !isWithin(n, 0, LONGEST_WORD)) {
             return BAD_ARGUMENT;
         }
-        countWords(slot, n);
+        countWords(graphs[slot], n);
         return counts.total(n);
     }
 
@@ -166,7 +166,7 @@ public final class SoficShift {
         if (!isSlot(slot) || !isWithin(n, 0, LONGEST_WORD - 1) || !isWithin(part, 0, 1)) {
             return BAD_ARGUMENT;
         }
-        countWords(slot, n + 1);
+        countWords(graphs[slot], n + 1);
         long longer = counts.total(n + 1);
         long shorter = counts.total(n);
         long divisor = commonDivisor(longer, shorter);
@@ -181,7 +181,7 @@ public final class SoficShift {
             return BAD_ARGUMENT;
         }
         int fault = wordFault();
-        int ends = fault >= 0 ? 0 : endsOfInput(slot);
+        int ends = fault >= 0 ? 0 : endsOfInput(graphs[slot]);
         input.clear();
         if (fault >= 0) {
             return SYNTAX_ERROR - fault;
@@ -193,7 +193,7 @@ public final class SoficShift {
         if (!isSlot(slot) || !isWithin(n, 0, LONGEST_WORD)) {
             return BAD_ARGUMENT;
         }
-        countWords(slot, n);
+        countWords(graphs[slot], n);
         if (i < 0 || i >= counts.total(n)) {
             return NONE;
         }
@@ -205,7 +205,7 @@ public final class SoficShift {
         if (!isSlot(slot) || !isWithin(n, 1, LONGEST_FORBIDDEN)) {
             return BAD_ARGUMENT;
         }
-        loadSubsets(slot);
+        loadSubsets(graphs[slot]);
         return subsets.countForbidden(n);
     }
 
@@ -213,7 +213,7 @@ public final class SoficShift {
         if (!isSlot(slot) || !isWithin(n, 1, LONGEST_FORBIDDEN)) {
             return BAD_ARGUMENT;
         }
-        loadSubsets(slot);
+        loadSubsets(graphs[slot]);
         if (i < 0 || i >= subsets.countForbidden(n)) {
             return NONE;
         }
@@ -225,7 +225,7 @@ public final class SoficShift {
         if (!isSlot(slot) || !isWithin(n, 1, LONGEST_PERIOD)) {
             return BAD_ARGUMENT;
         }
-        loadSubsets(slot);
+        loadSubsets(graphs[slot]);
         // Each periodic word is a power of one primitive word, which is periodic too.
         int total = 0;
         for (int root = 1; root <= n; root++) {
@@ -240,7 +240,7 @@ public final class SoficShift {
         if (!isSlot(slot) || !isWithin(n, 1, LONGEST_PERIOD)) {
             return BAD_ARGUMENT;
         }
-        loadSubsets(slot);
+        loadSubsets(graphs[slot]);
         return subsets.countOrbits(n);
     }
 
@@ -262,7 +262,7 @@ public final class SoficShift {
         if (!isSlot(slot) || !isSlot(target)) {
             return BAD_ARGUMENT;
         }
-        int size = buildCover(slot);
+        int size = buildCover(graphs[slot]);
         if (size > 0) {
             fresh.copyOf(fischer.shape());
             storeFresh(target);
@@ -274,7 +274,7 @@ public final class SoficShift {
         if (!isSlot(slot)) {
             return BAD_ARGUMENT;
         }
-        int size = buildCover(slot);
+        int size = buildCover(graphs[slot]);
         if (size < 0) {
             return size;
         }
@@ -286,7 +286,7 @@ public final class SoficShift {
         if (!isSlot(slot)) {
             return BAD_ARGUMENT;
         }
-        int size = buildCover(slot);
+        int size = buildCover(graphs[slot]);
         return size < 0 ? size : fischer.stepsToSynchronize();
     }
 
@@ -294,7 +294,7 @@ public final class SoficShift {
         if (!isSlot(slot)) {
             return BAD_ARGUMENT;
         }
-        int size = buildCover(slot);
+        int size = buildCover(graphs[slot]);
         if (size < 0) {
             return size;
         }
@@ -305,7 +305,7 @@ public final class SoficShift {
         if (!isSlot(first) || !isSlot(second)) {
             return BAD_ARGUMENT;
         }
-        loadSubsets(first);
+        loadSubsets(graphs[first]);
         otherTrimmed.copyCoreOf(graphs[second]);
         otherSubsets.build(otherTrimmed);
         if (!pairs.findDifference(subsets, otherSubsets)) {
@@ -418,16 +418,8 @@ public final class SoficShift {
     }
 
     public int undo() {
-        if (history.isEmpty()) {
-            return NOTHING_SAVED;
-        }
-        int slot = history.latestSlot();
-        if (!isSlot(slot)) {
-            return NOTHING_SAVED;
-        }
-        graphs[slot].copyOf(history.latestGraph());
-        history.dropLatest();
-        return slot;
+        int slot = history.pop(graphs);
+        return slot == NONE ? NOTHING_SAVED : slot;
     }
 
     public int save() {
@@ -515,7 +507,7 @@ public final class SoficShift {
         if (!row.exists()) {
             return NO_ARRAY;
         }
-        countWords(slot, row.length() - 1);
+        countWords(graphs[slot], row.length() - 1);
         for (int i = 0; i < row.length(); i++) {
             if (!row.holds(i, counts.total(i))) {
                 return i;
@@ -576,8 +568,10 @@ public final class SoficShift {
     }
 
     private void storeFresh(int slot) {
-        history.push(slot, graphs[slot]);
-        graphs[slot].copyOf(fresh);
+        if (isSlot(slot)) {
+            history.push(slot, graphs[slot]);
+            graphs[slot].copyOf(fresh);
+        }
     }
 
     private int storeWide(int target) {
@@ -597,19 +591,19 @@ public final class SoficShift {
         return total;
     }
 
-    private void loadSubsets(int slot) {
-        trimmed.copyCoreOf(graphs[slot]);
+    private void loadSubsets(Graph graph) {
+        trimmed.copyCoreOf(graph);
         subsets.build(trimmed);
     }
 
-    private void countWords(int slot, int longest) {
-        loadSubsets(slot);
+    private void countWords(Graph graph, int longest) {
+        loadSubsets(graph);
         counts.fill(subsets, longest);
     }
 
     /** Answers the number of vertices of the cover, or the error code that every method with a cover shares. */
-    private int buildCover(int slot) {
-        trimmed.copyCoreOf(graphs[slot]);
+    private int buildCover(Graph graph) {
+        trimmed.copyCoreOf(graph);
         if (!trimmed.isStronglyConnected()) {
             return REDUCIBLE;
         }
@@ -667,8 +661,8 @@ public final class SoficShift {
     }
 
     /** The vertices at which the essential part's paths with the input word end. */
-    private int endsOfInput(int slot) {
-        trimmed.copyCoreOf(graphs[slot]);
+    private int endsOfInput(Graph graph) {
+        trimmed.copyCoreOf(graph);
         int ends = trimmed.core();
         for (int i = 0; i < input.length(); i++) {
             ends = trimmed.follow(ends, input.at(i) - 'a');
@@ -756,7 +750,7 @@ public final class SoficShift {
 
         /** Words that are found backwards are turned here. */
         void turnAround() {
-            int right = length - 1;
+            int right = Math.min(length, signs.length) - 1;
             for (int left = 0; left < right; left++) {
                 char sign = signs[left];
                 signs[left] = signs[right];
@@ -920,29 +914,25 @@ public final class SoficShift {
         }
 
         void push(int slot, Graph graph) {
-            latest = (latest + 1) % CAPACITY;
+            latest = isWithin(latest, 0, CAPACITY - 2) ? latest + 1 : 0;
             graphs[latest].copyOf(graph);
             slots[latest] = slot;
             size = Math.min(size + 1, CAPACITY);
         }
 
-        boolean isEmpty() {
-            return size == 0;
-        }
-
-        int latestSlot() {
-            return slots[latest];
-        }
-
-        Graph latestGraph() {
-            return graphs[latest];
-        }
-
-        void dropLatest() {
-            if (size > 0) {
-                latest = (latest + CAPACITY - 1) % CAPACITY;
-                size--;
+        /** Puts the latest graph back in its place among its owners and forgets it; answers its slot, or NONE. */
+        int pop(Graph[] owners) {
+            if (size <= 0 || !isWithin(latest, 0, CAPACITY - 1)) {
+                return NONE;
             }
+            int slot = slots[latest];
+            if (slot < 0 || slot >= owners.length) {
+                return NONE;
+            }
+            owners[slot].copyOf(graphs[latest]);
+            latest = latest > 0 ? latest - 1 : CAPACITY - 1;
+            size--;
+            return slot;
         }
 
         void clear() {
@@ -985,7 +975,7 @@ public final class SoficShift {
             if (set <= 0 || set >= WIDTH) {
                 return DEAD;
             }
-            if (numbers[set] == DEAD && size < DEAD) {
+            if (numbers[set] == DEAD && size >= 0 && size < DEAD) {
                 numbers[set] = size;
                 sets[size] = set;
                 arrivals[size] = arrival;
@@ -1003,11 +993,11 @@ public final class SoficShift {
         }
 
         int set(int state) {
-            return state >= 0 && state < size ? sets[state] : 0;
+            return state >= 0 && state < size && state < DEAD ? sets[state] : 0;
         }
 
         int after(int state, int letter) {
-            boolean known = state >= 0 && state < size && letter >= 0 && letter < LETTERS;
+            boolean known = state >= 0 && state < size && state < DEAD && letter >= 0 && letter < LETTERS;
             return known ? next[LETTERS * state + letter] : DEAD;
         }
 
@@ -1015,7 +1005,7 @@ public final class SoficShift {
         void spellPath(int state, Text text) {
             text.clear();
             int at = state;
-            for (int i = 0; i < WIDTH && at > 0 && at < size; i++) {
+            for (int i = 0; i < WIDTH && at > 0 && at < size && at < DEAD; i++) {
                 text.addLetter(arrivals[at] % LETTERS);
                 at = arrivals[at] / LETTERS;
             }
@@ -1090,7 +1080,7 @@ public final class SoficShift {
             if (state == DEAD) {
                 return 0;
             }
-            if (place > length || place > LONGEST_PERIOD) {
+            if (place < 1 || place > length || place > LONGEST_PERIOD) {
                 return period == length && repeatsForever(length, state) ? 1 : 0;
             }
             int count = 0;
@@ -1211,11 +1201,13 @@ public final class SoficShift {
         }
 
         private int pairAt(int place) {
-            return place >= 0 && place < size ? (int) (found[place] % PAIRS) : BOTH_DEAD;
+            boolean known = place >= 0 && place < size && place < found.length;
+            return known ? (int) (found[place] & BOTH_DEAD) : BOTH_DEAD;
         }
 
         private int arrivalAt(int place) {
-            return place > 0 && place < size ? (int) (found[place] / PAIRS) : NO_ARRIVAL;
+            boolean known = place > 0 && place < size && place < found.length;
+            return known ? (int) (found[place] / PAIRS) : NO_ARRIVAL;
         }
 
         private void forget() {
@@ -1229,12 +1221,18 @@ public final class SoficShift {
             if (pair < 0 || pair >= BOTH_DEAD || (seen[pair / 32] >> pair % 32 & 1) != 0) {
                 return;
             }
-            if (size == found.length) {
-                found = Arrays.copyOf(found, 2 * size);
+            makeRoom();
+            if (size >= 0 && size < found.length) {
+                seen[pair / 32] |= 1 << pair % 32;
+                found[size] = pair + (long) PAIRS * arrival;
+                size++;
             }
-            seen[pair / 32] |= 1 << pair % 32;
-            found[size] = pair + (long) PAIRS * arrival;
-            size++;
+        }
+
+        private void makeRoom() {
+            if (size >= found.length && found.length < PAIRS) {
+                found = Arrays.copyOf(found, 2 * found.length);
+            }
         }
 
         void spellDifference(Text text) {
@@ -1255,9 +1253,10 @@ public final class SoficShift {
     private static final class Cover {
         private static final int NO_CLASS = -1;
 
-        private final int[] members = new int[Subsets.WIDTH];
-        private int memberCount;
+        private final boolean[] members = new boolean[Subsets.WIDTH];
         private final boolean[] marks = new boolean[Subsets.WIDTH];
+        private final int[] queue = new int[Subsets.WIDTH];
+        private int queued;
         private final int[] classes = new int[Subsets.WIDTH];
         private final int[] finer = new int[Subsets.WIDTH];
         private final int[] leaders = new int[VERTICES];
@@ -1303,44 +1302,45 @@ public final class SoficShift {
             }
         }
 
-        private void clearMarks() {
-            for (int i = 0; i < Subsets.WIDTH; i++) {
-                marks[i] = false;
+        private static void clearAll(boolean[] flags) {
+            for (int i = 0; i < flags.length; i++) {
+                flags[i] = false;
             }
         }
 
         private void collectFrom(Subsets subsets, int first) {
-            clearMarks();
-            memberCount = 0;
+            clearAll(members);
+            queued = 0;
             collect(first);
-            for (int i = 0; i < memberCount && i < Subsets.DEAD; i++) {
+            for (int i = 0; i < queued && i < Subsets.DEAD; i++) {
                 for (int letter = 0; letter < LETTERS; letter++) {
-                    collect(subsets.after(members[i], letter));
+                    collect(subsets.after(queue[i], letter));
                 }
             }
         }
 
         private void collect(int state) {
-            if (state >= 0 && state < Subsets.DEAD && !marks[state] && memberCount < Subsets.DEAD) {
-                marks[state] = true;
-                members[memberCount] = state;
-                memberCount++;
+            if (isWithin(state, 0, Subsets.DEAD - 1) && !members[state] && isWithin(queued, 0, Subsets.DEAD - 1)) {
+                members[state] = true;
+                queue[queued] = state;
+                queued++;
             }
         }
 
         /** Answers a member from which the given state cannot be reached, or DEAD if there is none. */
         private int memberWithoutWayTo(Subsets subsets, int state) {
-            clearMarks();
-            if (state >= 0 && state < Subsets.WIDTH) {
+            clearAll(marks);
+            if (isWithin(state, 0, Subsets.DEAD - 1)) {
                 marks[state] = true;
             }
             boolean changed = true;
             for (int round = 0; round < Subsets.WIDTH && changed; round++) {
                 changed = markMembersBeforeMarked(subsets);
             }
-            for (int i = memberCount - 1; i >= 0; i--) {
-                if (!marks[members[i]]) {
-                    return members[i];
+            // Late states have small sets, which lead to few others.
+            for (int member = Subsets.DEAD - 1; member >= 0; member--) {
+                if (members[member] && !marks[member]) {
+                    return member;
                 }
             }
             return Subsets.DEAD;
@@ -1348,12 +1348,12 @@ public final class SoficShift {
 
         private boolean markMembersBeforeMarked(Subsets subsets) {
             boolean changed = false;
-            for (int i = memberCount - 1; i >= 0; i--) {
-                int member = members[i];
-                for (int letter = 0; letter < LETTERS && !marks[member]; letter++) {
-                    int to = subsets.after(member, letter);
-                    if (to != Subsets.DEAD && marks[to]) {
-                        marks[member] = true;
+            // Most edges lead to later states, so that one round from the last state does most of the work.
+            for (int state = Math.min(subsets.size(), Subsets.DEAD) - 1; state >= 0; state--) {
+                for (int letter = 0; letter < LETTERS && members[state] && !marks[state]; letter++) {
+                    int to = subsets.after(state, letter);
+                    if (to >= 0 && to < Subsets.DEAD && marks[to]) {
+                        marks[state] = true;
                         changed = true;
                     }
                 }
@@ -1363,9 +1363,8 @@ public final class SoficShift {
 
         /** Splits the members into classes with the same followers; answers false if there are more than 8. */
         private boolean mergeMembers(Subsets subsets) {
-            Arrays.fill(classes, NO_CLASS);
-            for (int i = 0; i < memberCount; i++) {
-                classes[members[i]] = 0;
+            for (int state = 0; state < Subsets.WIDTH; state++) {
+                classes[state] = members[state] ? 0 : NO_CLASS;
             }
             size = 1;
             for (int round = 0; round <= VERTICES; round++) {
@@ -1384,40 +1383,44 @@ public final class SoficShift {
         /** Splits each class by the classes to which its members lead; answers the number of classes. */
         private int splitClasses(Subsets subsets) {
             int count = 0;
-            for (int i = 0; i < memberCount; i++) {
-                int found = 0;
-                while (found < count && !leadAlike(subsets, members[i], leaders[found])) {
-                    found++;
+            for (int state = 0; state < Subsets.DEAD; state++) {
+                finer[state] = NO_CLASS;
+                if (members[state]) {
+                    int found = 0;
+                    while (found < count && found < VERTICES && !leadAlike(subsets, state, leaders[found])) {
+                        found++;
+                    }
+                    if (found >= VERTICES) {
+                        return VERTICES + 1;
+                    }
+                    if (found == count) {
+                        leaders[found] = state;
+                        count++;
+                    }
+                    finer[state] = found;
                 }
-                if (found == VERTICES) {
-                    return VERTICES + 1;
-                }
-                if (found == count) {
-                    leaders[count] = members[i];
-                    count++;
-                }
-                finer[members[i]] = found;
             }
-            for (int i = 0; i < memberCount; i++) {
-                classes[members[i]] = finer[members[i]];
-            }
+            System.arraycopy(finer, 0, classes, 0, Subsets.DEAD);
             return count;
         }
 
         private boolean leadAlike(Subsets subsets, int first, int second) {
-            boolean alike = classes[first] == classes[second];
+            boolean alike = classOf(first) == classOf(second);
             for (int letter = 0; letter < LETTERS && alike; letter++) {
-                // The place of DEAD in the classes always holds NO_CLASS.
-                alike = classes[subsets.after(first, letter)] == classes[subsets.after(second, letter)];
+                alike = classOf(subsets.after(first, letter)) == classOf(subsets.after(second, letter));
             }
             return alike;
+        }
+
+        private int classOf(int state) {
+            return state >= 0 && state < Subsets.DEAD ? classes[state] : NO_CLASS;
         }
 
         private void linkClasses(Subsets subsets) {
             merged.clear();
             for (int vertex = 0; vertex < size && vertex < VERTICES; vertex++) {
                 for (int letter = 0; letter < LETTERS; letter++) {
-                    merged.put(vertex, letter, classes[subsets.after(leaders[vertex], letter)]);
+                    merged.put(vertex, letter, classOf(subsets.after(leaders[vertex], letter)));
                 }
             }
         }
@@ -1452,7 +1455,7 @@ public final class SoficShift {
         }
 
         private int numberVertex(int vertex, int count) {
-            if (numbers[vertex] != NO_CLASS || count >= VERTICES) {
+            if (!isVertex(vertex) || !isVertex(count) || numbers[vertex] != NO_CLASS) {
                 return count;
             }
             numbers[vertex] = count;
@@ -1543,7 +1546,7 @@ public final class SoficShift {
                 result.clear();
                 for (int v = 0; v < WIDTH; v++) {
                     if ((core >> v & 1) != 0) {
-                        copyEdges(v, core, result);
+                        copyEdges(v, numbers[v], core, result);
                     }
                 }
             }
@@ -1571,9 +1574,13 @@ public final class SoficShift {
         private long successors(int v) {
             long ends = 0;
             for (int letter = 0; letter < LETTERS; letter++) {
-                ends |= masks[LETTERS * v + letter];
+                ends |= row(v, letter);
             }
             return ends;
+        }
+
+        private long row(int source, int letter) {
+            return source >= 0 && source < WIDTH && isLetter(letter) ? masks[LETTERS * source + letter] : 0;
         }
 
         private void numberVertices(long core) {
@@ -1586,12 +1593,12 @@ public final class SoficShift {
             }
         }
 
-        private void copyEdges(int v, long core, Graph result) {
+        private void copyEdges(int v, int number, long core, Graph result) {
             for (int letter = 0; letter < LETTERS; letter++) {
-                long ends = masks[LETTERS * v + letter] & core;
+                long ends = row(v, letter) & core;
                 for (int x = 0; x < WIDTH; x++) {
                     if ((ends >> x & 1) != 0) {
-                        result.put(numbers[v], letter, numbers[x]);
+                        result.put(number, letter, numbers[x]);
                     }
                 }
             }
