@@ -1013,7 +1013,7 @@ public final class SoficShift {
         }
 
         int countForbidden(int length) {
-            return countForbiddenFrom(length, start(), NO_TAIL);
+            return isWithin(length, 1, LONGEST_FORBIDDEN) ? countForbiddenFrom(length, start(), NO_TAIL) : 0;
         }
 
         void spellForbidden(int length, int number, Text text) {
